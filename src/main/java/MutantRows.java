@@ -28,6 +28,7 @@ public final class MutantRows {
 
     private final Sheet[] sheets;
     private final Program now;
+    /** Where that is tried which must not change what is now. */
     private final Program trial;
     private final TextReader reader;
     private final Kills kills;
@@ -43,7 +44,7 @@ public final class MutantRows {
         }
         now = new Program();
         trial = new Program();
-        reader = new TextReader(trial);
+        reader = new TextReader();
         kills = new Kills();
         readingRow = new int[MOST_READINGS];
     }
@@ -72,7 +73,7 @@ public final class MutantRows {
         if (!reader.reads(row, i, n)) {
             return -100 - reader.place;
         }
-        now.becomeLike(trial);
+        now.becomeLike(reader.told);
         readingCount = 0;
         return now.mutants();
     }
@@ -855,21 +856,17 @@ public final class MutantRows {
         private static final int[] KIND_CODES = {'P', 'S', 'D'};
         private static final int MISSING = -1;
 
-        private final Program into;
+        final Program told = new Program();
         private final int[] codes = new int[MOST_CELLS];
         private int length;
         int place;
 
-        TextReader(Program program) {
-            into = program;
-        }
-
-        /** Whether n cells from i on, which are there, are a TEXT; the PROGRAM becomes what it tells. */
+        /** Whether n cells from i on, which are there, are a TEXT; its PROGRAM stays in told. */
         boolean reads(Sheet row, int i, int n) {
             System.arraycopy(row.cells, i, codes, 0, n);
             length = n;
             place = 0;
-            into.becomeEmpty();
+            told.becomeEmpty();
             return pass('m') && readSteps() && readTests() && place == length;
         }
 
@@ -888,13 +885,14 @@ public final class MutantRows {
             int stepWay = pick(WAY_CODES);
             int first = stepWay == MISSING ? MISSING : source();
             int second = first == MISSING ? MISSING : source();
-            if (second == MISSING || into.steps >= MOST_STEPS) {
+            int k = told.steps;
+            if (second == MISSING || k >= MOST_STEPS) {
                 return false;
             }
-            into.stepWays[into.steps] = stepWay;
-            into.firsts[into.steps] = first;
-            into.seconds[into.steps] = second;
-            into.steps++;
+            told.stepWays[k] = stepWay;
+            told.firsts[k] = first;
+            told.seconds[k] = second;
+            told.steps++;
             return true;
         }
 
@@ -914,14 +912,15 @@ public final class MutantRows {
             int testTime = kind == MISSING ? MISSING : digit(1, 9);
             int x = testTime == MISSING ? MISSING : digit(0, 9);
             int y = x == MISSING ? MISSING : digit(0, 9);
-            if (y == MISSING || into.tests >= MOST_TESTS) {
+            int t = told.tests;
+            if (y == MISSING || t >= MOST_TESTS) {
                 return false;
             }
-            into.testKinds[into.tests] = kind;
-            into.times[into.tests] = testTime;
-            into.xs[into.tests] = x;
-            into.ys[into.tests] = y;
-            into.tests++;
+            told.testKinds[t] = kind;
+            told.times[t] = testTime;
+            told.xs[t] = x;
+            told.ys[t] = y;
+            told.tests++;
             return true;
         }
 
@@ -964,7 +963,7 @@ public final class MutantRows {
             if (pass('y')) {
                 return SOURCE_Y;
             }
-            return digit(0, into.steps - 1);
+            return digit(0, told.steps - 1);
         }
     }
 

@@ -11,6 +11,8 @@ public final class MutantsTest {
         equalOnes();
         subsumed();
         leastOfTheSame();
+        mostMutantsAndTests();
+        smallerAnew();
         noneKilled();
         refusals();
         daysThatCanBe();
@@ -69,6 +71,9 @@ public final class MutantsTest {
             due.is("EQUAL " + m, x.ofMutant(m, 3), m == 3 ? 1 : 0);
         }
         due.is("EQUAL ones", x.many(4), 1);
+        due.is("g and l differ where x and y do", Due.told("m;gxy,P100").many(4), 0);
+        // 0 and x is the greater of 0 and x as long as x is a figure.
+        due.is("EQUAL for figures", Due.told("m;sxx;a0x,P111").many(4), 1);
         MutantRows all = Due.told(ALL_EQUAL);
         due.is("EQUAL ones, all", all.many(4), 8);
         due.is("KILLED ones", all.many(3), 0);
@@ -110,6 +115,47 @@ public final class MutantsTest {
             due.is("LEAST of the same " + m, x.ofMutant(m, 5), same[m]);
         }
         due.is("hardest of the same", x.hardest(), 2);
+        due.is("hardest that seven TESTS KILL", Due.told("m;axy" + ",P112".repeat(7)).hardest(), 0);
+    }
+
+    private static void mostMutantsAndTests() {
+        // The last STEP alone is the OUTPUT: what the others make is seen by nobody.
+        MutantRows x = Due.told("m;axy;axy;axy;axy;axy" + ",P112".repeat(7));
+        for (int m = 0; m < 20; m++) {
+            boolean last = m >= 16;
+            due.is("state of MUTANT " + m, x.state(m, 6), last ? 2 : 1);
+            due.is("TESTS that KILL MUTANT " + m, x.ofMutant(m, 2), last ? 127 : 0);
+            due.is("EQUAL " + m, x.ofMutant(m, 3), last ? 0 : 1);
+            due.is("LEAST " + m, x.ofMutant(m, 5), m == 16 ? 1 : 0);
+            due.is("SUBSUMED by " + m, x.ofMutant(m, 6), last ? 4 : 0);
+        }
+        due.is("hardest", x.hardest(), 16);
+        due.is("LEAST ones", Due.day(x, 3), 1);
+        due.is("COVER", x.cover(0), 1);
+        due.is("COVER's WEIGHT", x.cover(1), 1);
+        for (int manner = 0; manner <= 2; manner++) {
+            due.is("TESTS that are chosen", x.choose(manner, 0), 1);
+        }
+        due.is("MUTANTS that the last TEST KILLS", x.ofTest(6, 6), 15 << 16);
+        due.is("no MUTANT 20", x.ofMutant(20, 0), MutantRows.UNKNOWN);
+    }
+
+    /** What a greater PROGRAM left behind must not be seen. */
+    private static void smallerAnew() {
+        MutantRows x = Due.told("m;axy;s0x;m1y;g21;l30,P112,S234,D356,P478,S590,D613,P735");
+        x.hardest();
+        Due.tell(x, "m;axy,P312,S150");
+        due.is("TESTS that KILL MUTANT 0", x.ofMutant(0, 2), 1);
+        due.is("TESTS that KILL MUTANT 1", x.ofMutant(1, 2), 3);
+        due.is("SUBSUMED by MUTANT 0", x.ofMutant(0, 6), 4);
+        due.is("LEAST", x.ofMutant(0, 5), 1);
+        due.is("LEAST ones", Due.day(x, 3), 1);
+        due.is("hardest", x.hardest(), 0);
+        due.is("COVER", x.cover(0), 1);
+        due.is("COVER's WEIGHT", x.cover(1), 3);
+        for (int manner = 0; manner <= 2; manner++) {
+            due.is("the first TEST", x.choose(manner, 10), manner == 1 ? 1 : 0);
+        }
     }
 
     private static void noneKilled() {
@@ -150,9 +196,18 @@ public final class MutantsTest {
         due.is("no TEST 2", Due.day(x, 12), MutantRows.NONE);
         due.is("no TEST 6", Due.day(x, 16, 98, 20), MutantRows.NONE);
         due.is("no FIRST WRONG", Due.day(x, 1, 98, 20), MutantRows.NONE);
+        x.way(0, 4);
+        x.aim(1, 9, 7);
+        due.is("from how all is now", Due.day(x, 11), 7);
+        x.way(0, 0);
+        x.aim(1, 0, 0);
+        Due.fill(x, 2, 0, 9, 10, 8, 10);
+        due.is("a DAY of bytes", x.day(2, 0, 2, 1, 4), 8);
         due.is("EQUAL ones", Due.day(Due.told("m;gxx,P122"), 2), 1);
         due.is("EQUAL ones by WAY s", Due.day(Due.told("m;gxx,P122"), 2, 1, 0), 0);
-        due.is("LEAST ones", Due.day(Due.told("m;gxy,P110,P101"), 3), 1);
+        due.is("LEAST ones", Due.day(Due.told("m;gxy,P210,P201"), 3), 1);
+        // At 0 1 s, m, l are KILLED, at 1 5 m, g, l: s by TEST 0 alone, g by TEST 1 alone.
+        due.is("LEAST ones", Due.day(Due.told("m;axy,P301,P315"), 3), 2);
         due.is("nothing is changed", x.ofStep(0, 0), 0);
         due.is("TIME is not changed", x.ofTest(0, 1), 3);
         due.is("INPUTS are not changed", x.aim(0, 1, 2), 12);

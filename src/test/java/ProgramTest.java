@@ -57,6 +57,8 @@ public final class ProgramTest {
             "m;axy;m00;gy2", "m;axy;m00;g2x", "m;axy,", "m;axy,p", "m;axy,P", "m;axy,P0", "m;axy,P:", "m;axy,P1",
             "m;axy,P1/", "m;axy,P1x", "m;axy,P12", "m;axy,P12:", "m;axy,P123;", "m;axy,P1234", "m;axy,P123,",
             "m;axy,P123,D", "m;axy,P123,D9", "m;axy,P123,D90", "m;axy,P123m",
+            "m;,P123", "m;a,P123", "m;ax,P123", "m;ax;axy,P123", "m;axy,,P123", "m;axy,P,P123", "m;axy,P1,P123",
+            "m;axy,P12,P123",
         };
         int[] places = {
             0, 0, 0, 1, 1, 1, 2, 2, 2, 2, 3, 3, 3, 4, 4,
@@ -64,6 +66,8 @@ public final class ProgramTest {
             12, 11, 6, 6, 7, 7, 7, 8,
             8, 8, 9, 9, 10, 10, 11,
             12, 13, 14, 10,
+            2, 3, 4, 4, 6, 7, 8,
+            9,
         };
         due.is("texts told", texts.length, places.length);
         for (int c = 0; c < texts.length; c++) {

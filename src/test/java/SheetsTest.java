@@ -17,10 +17,12 @@ public final class SheetsTest {
     private static void sheets() {
         MutantRows x = new MutantRows();
         due.faults("sheet(0, 2, 60)", x, x.sheet(0, 2, 60), 1, 0);
+        due.is("put at the beginning", x.put(0, 0, 7), 1);
         due.is("put at the end", x.put(0, 59, 7), 1);
         due.is("cell at the end", x.cell(0, 59, 2), 7);
         due.is("a new row", x.sheet(0, 2, 60), 1);
-        due.is("0 at first", x.cell(0, 59, 2), 0);
+        due.is("0 at first, at the beginning", x.cell(0, 0, 2), 0);
+        due.is("0 at first, at the end", x.cell(0, 59, 2), 0);
         due.is("a row of none", x.sheet(3, 0, 0), 1);
         due.is("no cell there", x.cell(3, 0, 0), MutantRows.LOST);
         due.is("sheet(-1, 3, 61)", x.sheet(-1, 3, 61), MutantRows.UNKNOWN);
@@ -114,6 +116,9 @@ public final class SheetsTest {
         Due.fill(x, 0, 1, 1, 2, 3);
         Due.fill(x, 1, 1, 4, 5);
         Due.fill(x, 2, 2, 6);
+        x.put(3, 0, 0);
+        due.faults("a copy behind a FAULT", x, x.copy(0, 0, 1, 0, 0), 0, 0);
+        x.put(3, 0, 0);
         due.faults("SHEET -1", x, x.copy(-1, 0, 3, 0, 1), MutantRows.UNKNOWN, 0);
         due.faults("other SHEET 4", x, x.copy(3, 0, 4, 0, 1), MutantRows.UNKNOWN, 0);
         due.faults("from nothing", x, x.copy(3, 9, 0, 9, -1), -11, 1);
