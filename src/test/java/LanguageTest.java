@@ -101,6 +101,8 @@ public final class LanguageTest {
         holds(name + " has at most twenty fields", fields <= 20);
         for (Method m : type.getDeclaredMethods()) {
             holds(name + "." + m.getName() + " takes at most seven", m.getParameterCount() <= 7);
+            holds(name + "." + m.getName() + " has no public name", type == MutantRows.class
+                    || Arrays.stream(FACE).noneMatch(f -> f.contains(" " + m.getName() + "(")));
         }
     }
 
