@@ -79,6 +79,12 @@ final class KillsEdges extends Edges {
             due(1, "ofMutant", m, 3);
         }
         due(8, "many", 4);
+        // 0 and x is the greater one of 0 and x for figures, though not for 10 or -1.
+        for (String source : new String[] {"x", "y"}) {
+            fromText("m;sxx;a0" + source + ",P111");
+            due(1, "ofMutant", 6, 3);
+            due(1, "many", 4);
+        }
     }
 
     private void subsumed() {
@@ -111,6 +117,36 @@ final class KillsEdges extends Edges {
         // s SUBSUMES a, which is ahead of it, and m l, which is behind it.
         dueLeast(",P111,P110,P168", 0, 1, 1, 0);
         dueLeast(",P100", 0, 0, 0, 0);
+        dueLeastOfTwenty();
+        dueLeastBehindMost();
+    }
+
+    private void dueLeastOfTwenty() {
+        // STEP 4 alone is the OUTPUT, and all its MUTANTS are KILLED by the same.
+        from(() -> withPairs("m;axy;axy;axy;axy;axy,P112"));
+        for (int m = 0; m < 20; m++) {
+            due(m == 16 ? 1 : 0, "ofMutant", m, 5);
+        }
+        due(1, "day", 3, 2, 0, 0, 3);
+        // MUTANT 8 is KILLED by TEST 1 alone, which KILLS all others but MUTANT 0.
+        from(() -> withPairs(MOST));
+        for (int m = 0; m < 20; m++) {
+            due(m == 0 || m == 8 ? 1 : 0, "ofMutant", m, 5);
+        }
+        due(2, "day", 3, 2, 0, 0, 3);
+    }
+
+    /** What was KILLED of a greater PROGRAM is not seen behind a lesser one. */
+    private void dueLeastBehindMost() {
+        MutantRows x = told(MOST);
+        is("HARDEST of the greater one", x.hardest(), 8);
+        is("program of a lesser one", Due.tell(x, GREATER + ",P111,P110,P168"), 4);
+        for (int m = 0; m < 4; m++) {
+            is("LEAST " + m, x.ofMutant(m, 5), m == 1 || m == 2 ? 1 : 0);
+        }
+        is("LEAST ones", Due.day(x, 3), 2);
+        is("SUBSUMED by MUTANT 1", x.ofMutant(1, 6), 2);
+        is("HARDEST", x.hardest(), 1);
     }
 
     private void dueLeast(String tests, int... least) {
