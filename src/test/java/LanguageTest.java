@@ -17,6 +17,7 @@ import java.util.regex.Pattern;
 /** The face of the class, and those rules of LANGUAGE.md that can be seen from outside. */
 public final class LanguageTest {
     private static final Due due = new Due("LanguageTest");
+    private static final Path DOCUMENT = Path.of("../shared/DOC.md");
 
     private static final String[] FACE = {
         "int program(int, int, int, int)", "int ofStep(int, int)", "int ofTest(int, int)", "int output(int, int)",
@@ -31,6 +32,7 @@ public final class LanguageTest {
     public static void main(String[] args) throws IOException {
         face();
         constants();
+        faceOfDocument();
         for (Class<?> type : types()) {
             members(type);
         }
@@ -85,6 +87,36 @@ public final class LanguageTest {
             }
         }
         holds("the constants are " + open, open.equals(Set.of("UNKNOWN", "OUTSIDE", "STATE", "FULL", "NONE", "LOST")));
+    }
+
+    /** What is written out here could be wrong: the document's own face is looked at, too. */
+    private static void faceOfDocument() throws IOException {
+        if (!Files.exists(DOCUMENT)) {
+            System.out.println("no " + DOCUMENT + ": its face is not looked at");
+            return;
+        }
+        String text = Files.readString(DOCUMENT);
+        Set<String> face = new TreeSet<>(Arrays.asList(FACE));
+        Set<String> shown = callsTold("(?m)^    public (int|long) (\\w+)\\((.*?)\\);$", text);
+        Set<String> promised = callsTold("(?m)^`(int|long) (\\w+)\\((.*?)\\)`: ", text);
+        holds("the document's calls are " + shown, shown.equals(face));
+        holds("the calls that it promises are " + promised, promised.equals(face));
+        for (String line : List.of("public final class MutantRows {", "    public MutantRows();",
+                "    public static final int UNKNOWN = -1, OUTSIDE = -2, STATE = -3, FULL = -4, NONE = -9;",
+                "    public static final long LOST = Long.MIN_VALUE;")) {
+            holds("the document has the line " + line, text.lines().anyMatch(line::equals));
+        }
+    }
+
+    /** Calls as FACE has them, without their arguments' names. */
+    private static Set<String> callsTold(String form, String text) {
+        Set<String> all = new TreeSet<>();
+        Matcher call = Pattern.compile(form).matcher(text);
+        while (call.find()) {
+            String types = call.group(3).replaceAll("\\bint \\w+", "int");
+            all.add(call.group(1) + " " + call.group(2) + "(" + types + ")");
+        }
+        return all;
     }
 
     private static void members(Class<?> type) {
